@@ -10,7 +10,7 @@ final class Check {
         if (got != due) {
             wrong++;
             if (wrong <= 40) {
-                System.out.println(what + " answered " + got + ", due is " + due);
+                System.out.println(brief(what) + " answered " + got + ", due is " + due);
             }
         }
     }
@@ -21,6 +21,10 @@ final class Check {
 
     void no(String what, boolean got) {
         same(what, got ? 1 : 0, 0);
+    }
+
+    private static String brief(String what) {
+        return what.length() <= 400 ? what : what.substring(0, 100) + " .. " + what.substring(what.length() - 60);
     }
 
     int wrongs() {
