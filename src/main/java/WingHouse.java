@@ -160,7 +160,7 @@ public final class WingHouse {
     public int solve(int wing, int v, int s, boolean on) {
         Text text = textOf(hand);
         Wing flown = wingOf(text, wing);
-        if (flown == null || !isSpeed(v) || !isSlant(s)) {
+        if (text == null || flown == null || !isSpeed(v) || !isSlant(s)) {
             return NONE;
         }
         solver.setOut(text, flown, v, s, text.hingeAngles, gusts);
@@ -173,7 +173,7 @@ public final class WingHouse {
     public int ground(int wing, int v, int s, int h) {
         Text text = textOf(hand);
         Wing flown = wingOf(text, wing);
-        if (flown == null || !isSpeed(v) || !isSlant(s) || h < 1 || h > 20) {
+        if (text == null || flown == null || !isSpeed(v) || !isSlant(s) || h < 1 || h > 20) {
             return NONE;
         }
         solver.setOut(text, flown, v, s, text.hingeAngles, gusts);
@@ -185,7 +185,7 @@ public final class WingHouse {
         Text text = textOf(hand);
         Wing flown = wingOf(text, wing);
         Wing ahead = wingOf(text, leader);
-        if (flown == null || ahead == null || leader == wing || !ahead.last.solved) {
+        if (text == null || flown == null || ahead == null || leader == wing || !ahead.last.solved) {
             return NONE;
         }
         if (!isSpeed(v) || !isSlant(s) || o < -20 || o > 20) {
@@ -279,7 +279,7 @@ public final class WingHouse {
     public int curve(int wing, int v, int a, int b) {
         Text text = textOf(hand);
         Wing flown = wingOf(text, wing);
-        if (flown == null || !isSpeed(v) || !isSlant(a) || !isSlant(b)) {
+        if (text == null || flown == null || !isSpeed(v) || !isSlant(a) || !isSlant(b)) {
             return NO_CURVE;
         }
         return trials.drawCurve(text, flown, v, a, b);
@@ -292,7 +292,7 @@ public final class WingHouse {
     public int trims(int wing, int v, int weight) {
         Text text = textOf(hand);
         Wing flown = wingOf(text, wing);
-        if (flown == null || !isSpeed(v)) {
+        if (text == null || flown == null || !isSpeed(v)) {
             return NONE;
         }
         return trials.findTrims(text, flown, v, weight);
@@ -301,7 +301,7 @@ public final class WingHouse {
     public int trim(int wing, int v, int weight, int i) {
         Text text = textOf(hand);
         Wing flown = wingOf(text, wing);
-        if (flown == null || !isSpeed(v)) {
+        if (text == null || flown == null || !isSpeed(v)) {
             return NO_CURVE;
         }
         int found = trials.findTrims(text, flown, v, weight);
@@ -311,7 +311,7 @@ public final class WingHouse {
     public int stays(int wing, int v, int weight, int i) {
         Text text = textOf(hand);
         Wing flown = wingOf(text, wing);
-        if (flown == null || !isSpeed(v)) {
+        if (text == null || flown == null || !isSpeed(v)) {
             return NONE;
         }
         int found = trials.findTrims(text, flown, v, weight);
@@ -324,7 +324,7 @@ public final class WingHouse {
     public int fold(int wing, int s) {
         Text text = textOf(hand);
         Wing flown = wingOf(text, wing);
-        if (flown == null || !isSlant(s)) {
+        if (text == null || flown == null || !isSlant(s)) {
             return NONE;
         }
         return trials.foldSpeed(text, flown, s);
@@ -333,7 +333,7 @@ public final class WingHouse {
     public int shakes(int wing, int v, int s) {
         Text text = textOf(hand);
         Wing flown = wingOf(text, wing);
-        if (flown == null || !flown.massTold || !isSpeed(v) || !isSlant(s)) {
+        if (text == null || flown == null || !flown.massTold || !isSpeed(v) || !isSlant(s)) {
             return NONE;
         }
         return trials.shakesAt(text, flown, v, s);
@@ -342,7 +342,7 @@ public final class WingHouse {
     public int shake(int wing, int s) {
         Text text = textOf(hand);
         Wing flown = wingOf(text, wing);
-        if (flown == null || !flown.massTold || !isSlant(s)) {
+        if (text == null || flown == null || !flown.massTold || !isSlant(s)) {
             return NONE;
         }
         for (int v = 1; v <= SPEED_MOST; v++) {
@@ -356,7 +356,7 @@ public final class WingHouse {
     public long best(int wing, int v, int s, int strips, int least) {
         Text text = textOf(hand);
         Wing flown = wingOf(text, wing);
-        if (flown == null || !isSpeed(v) || !isSlant(s)) {
+        if (text == null || flown == null || !isSpeed(v) || !isSlant(s)) {
             return NO_FORCE;
         }
         if (strips < 0 || strips >= 1 << flown.strips || Integer.bitCount(strips) > Best.TOLD_MOST) {
