@@ -1549,16 +1549,13 @@ public final class WingHouse {
             if (mass.length < 4) {
                 return false;
             }
-            long u = 0;
+            // p and u, with a, never come back to w and q: what is asked of q needs none of them.
             long w = 0;
-            long p = 0;
             long q = SWING_START;
             long greatest = 0;
             for (int i = 0; i < SWINGS; i++) {
                 long f = push * q / 1000000;
-                u = held(u + f - mass[0] * p / 1000 - mass[2] * u / 1000);
                 w = held(w - f * mass[3] / 1000 - mass[1] * q / 1000 - mass[2] * w / 1000);
-                p = held(p + u);
                 q = held(q + w);
                 if (i >= SWINGS - LAST_SWINGS) {
                     greatest = Math.max(greatest, Math.abs(q));

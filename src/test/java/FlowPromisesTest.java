@@ -11,6 +11,8 @@ public final class FlowPromisesTest {
 
     public static void main(String[] args) {
         promise10();
+        lastRound();
+        ten();
         promise11();
         promise12();
         promise13();
@@ -66,6 +68,43 @@ public final class FlowPromisesTest {
         g("10 with a gust", house, -899);
         Check.read(house, LEAPS);
         CHECK.same("10 in this text", house.solve(0, 10, -4, true), 11);
+    }
+
+    private static void lastRound() {
+        // With the bend the aim runs away from G, some two in each round, for as long as the law rises.
+        String slow = "drag d:0 7,1 7;wing w:1 a d-30 deep 2000 stiff 1 sweep-";
+        WingHouse house = Check.houseOf("law a:-90 5,90 251;" + slow + "5;", "law a:-90 4,90 203;" + slow + "9;",
+                "law a:-90 5,90 444;" + slow + "4;");
+        house.gust(0, -30);
+        house.use(0);
+        CHECK.same("10 the 120th changes none", house.solve(0, 38, -30, false), 120);
+        house.use(1);
+        CHECK.same("10 the 120th changes one", house.solve(0, 32, -30, false), -2);
+        CHECK.same("10 never", house.strip(0, 0, 0), -1000000);
+        house.use(2);
+        CHECK.same("10 the 119th changes none", house.solve(0, 32, -30, false), 119);
+    }
+
+    private static void ten() {
+        String laws = "law z:0 0,1 0;law k:0 900,1 900;drag y:0 0,1 0;drag d:0 7,1 7;wing ";
+        String strips = ":9 k d 0,1 k d 0,8 k d 0,2 k d 0,7 k d 0,3 k d 0,6 k d 0,4 k d 0,5 k d 0,9 k d 0 deep 50;";
+        WingHouse house = Check.houseOf(laws + "w" + strips + "wing x" + strips);
+        house.solve(0, 10, 5, false);
+        row("10 of ten G", house, 0, 0, 8099, 899, 7199, 1799, 6299, 2699, 5399, 3599, 4499, 8099);
+        row("10 of ten DOWN", house, 0, 1, 281, -187, 202, -139, 141, -84, 84, -29, -1, 240);
+        CHECK.same("14 the last edge", house.edge(0, 10), -8099);
+        house.follow(1, 10, 5, 0, 5);
+        row("12 of ten at 5", house, 1, 1, 274, -197, 186, -171, 15, 197, -103, 173, -140, 381);
+        house.follow(1, 10, 5, 0, -20);
+        row("12 of ten at -20", house, 1, 1, 279, -189, 201, -140, 140, -85, 83, -30, -1, 240);
+        house.follow(1, 10, 5, 0, 20);
+        row("12 of ten at 20", house, 1, 1, 281, -187, 201, -140, 140, -85, 83, -30, -2, 238);
+        house.ground(0, 10, 5, 1);
+        row("11 of ten at 1", house, 0, 1, 267, -201, 187, -152, 128, -96, 70, -44, -20, 222);
+        house.ground(0, 10, 5, 2);
+        row("11 of ten at 2", house, 0, 1, 275, -195, 193, -148, 131, -94, 74, -39, -10, 233);
+        house.ground(0, 10, 5, 5);
+        row("11 of ten at 5", house, 0, 1, 279, -189, 199, -142, 138, -87, 81, -32, -4, 238);
     }
 
     private static void promise11() {
@@ -258,6 +297,8 @@ public final class FlowPromisesTest {
         holds("1!=2", 0);
         holds("not 1==1", -2);
         holds("not not 1==1", 0);
+        holds("not not not 1==1", -2);
+        holds("not not not 1==2", 0);
         holds("1==2 and 1==1", -2);
         holds("1==1 or 1==1 and 1==2", 0);
         holds("1==2 and 1==1 or at==1", 1);

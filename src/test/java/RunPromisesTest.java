@@ -163,6 +163,21 @@ public final class RunPromisesTest {
         // The second never settles at 5; from 10 on its aim stays where it leaps to.
         WingHouse house = Check.houseOf(TEN, LEAPS);
         CHECK.same("33 where both tell a lift", house.next(0, 0), 4010);
+        // Alike but on one side.
+        String side = "drag d:0 7,1 7;wing w:1 a d 0 deep 2000;";
+        house = Check.houseOf("law a:0 0,90 450;" + side, "law a:0 0,90 900;" + side, "law a:0 0,90 500;" + side);
+        CHECK.same("33 the last place of all", house.next(0, 0), 4020);
+        house = Check.houseOf("law a:0 0,90 900;" + side, "law a:0 0,90 450;" + side, "law a:0 0,90 500;" + side);
+        CHECK.same("33 whichever comes first", house.next(0, 0), 4020);
+        house = Check.houseOf("law a:0 0,15 900,16 0;" + side, "law a:0 0,90 90;" + side);
+        CHECK.same("33 by fives", house.next(0, 0), 4015);
+        house = Check.houseOf("law a:0 0,15 900,16 0;" + side, "law a:0 0,90 450;" + side, "law a:0 0,90 900;" + side);
+        house.run(0, 10, 10, 49, 0);
+        CHECK.same("33 the first and the last are out", house.next(0, 1), -2);
+        CHECK.same("33 not known", house.next(0, 0), 4015);
+        house = Check.houseOf("law a:0 0,15 900,16 0;" + side, "law a:0 0,90 450;" + side, "law a:0 0,90 540;" + side);
+        house.run(0, 10, 15, 80, 0);
+        CHECK.same("33 the first is out", house.next(0, 1), 4020);
         // Both alike: the least speed, then slant.
         house = Check.houseOf(TEN, TEN);
         CHECK.same("33 all are as near", house.next(0, 0), 980);

@@ -17,6 +17,7 @@ public final class TextPromisesTest {
         roomForTokens();
         names();
         numbers();
+        nothingStays();
         promise5();
         promise6();
         promise7();
@@ -263,6 +264,14 @@ public final class TextPromisesTest {
         fault("wing w:1 a d 0;" + BOTH, 4, 9);
         fault("wing w:1 a d 0;!", 1, 15);
         fault("law a:0 0,1 1;law a:0 0,1 1;law", 1, 31);
+        fault(rows("law", 4, ":0 0,1 1;") + "law a:0 0,1 1;law aa:0 0,1 1;law ab:0 0,1 1;law ba:0 0,1 1;", 0, -1);
+        // As many names as there can be, the last one told already.
+        String all = laws(8) + rows("hinge", 4, " 1;") + "wing i:1 a b 0;wing j:1 a b 0;wing k:1 a b 0;wing l:1 a b 0;";
+        for (char bar = 't'; bar < 'z'; bar++) {
+            all += "bar " + bar + " if 1==1;";
+        }
+        fault(all + "bar m if 1==1;bar n if 1==1;", 0, -1);
+        fault(all + "bar m if 1==1;bar m if 1==1;", 3, all.length() + 18);
         fault("law a:99 0,1 1;law a:0 0,1 1;", 5, 6);
         fault("law a:0 0,1 1;law a:99 0,1 1;", 3, 18);
     }
@@ -303,6 +312,28 @@ public final class TextPromisesTest {
 
     private static void strip(String strip, int fault, int place) {
         fault(BOTH + "wing w:" + strip + ";", fault, place);
+    }
+
+    /** A text with a fault leaves nothing to the next one. */
+    private static void nothingStays() {
+        WingHouse house = new WingHouse();
+        Check.read(house, "law x:0 900,1 900;hinge h 9;" + BOTH + "wing v:9 x d 9 on h,9 x d 9 on h "
+                + "deep 50 stiff 1 sweep 9 mass 1 1 1 1;bar b if 1==1;wing w:0 x d 0;");
+        CHECK.same("fault", house.place(), 148);
+        CHECK.same("without it", Check.read(house, "hinge x 5;law k:0 900,1 900;" + DRAG_D + "wing w:1 k d 0;"), 0);
+        int[] due = {2, 1, 1, 0};
+        for (int what = 3; what < 7; what++) {
+            CHECK.same("counts without it " + what, house.count(what), due[what - 3]);
+        }
+        CHECK.same("strips without it", house.count(10), 1);
+        CHECK.same("never", house.strip(0, 0, 0), -1000000);
+        house.solve(0, 40, 5, true);
+        CHECK.same("G", house.strip(0, 0, 0), 899);
+        CHECK.same("deep 200", house.strip(0, 0, 1), 8);
+        CHECK.same("stiff 0", house.strip(0, 0, 2), 0);
+        CHECK.same("sweep 0", house.strip(0, 0, 3), 5 - 8);
+        CHECK.same("mass none", house.shakes(0, 10, 5), -1);
+        CHECK.same("no bars", house.barred(0), -2);
     }
 
     private static void promise5() {

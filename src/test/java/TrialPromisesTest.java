@@ -33,6 +33,8 @@ public final class TrialPromisesTest {
         CHECK.same("18 down", house.curve(0, 10, 14, 8), 13);
         CHECK.same("18 down from the top", house.curve(0, 10, 10, -30), -100);
         CHECK.same("18 one", house.curve(0, 10, 20, 20), -100);
+        CHECK.same("18 alike is neither less nor more", Check.houseOf(FLAT + "wing w:1 k d 0;").curve(0, 10, -30, 30), -100);
+        CHECK.same("18 nor down", Check.houseOf(FLAT + "wing w:1 k d 0;").curve(0, 10, 30, -30), -100);
         int[][] wrong = {{1, 10, 0, 0}, {-1, 10, 0, 0}, {0, 0, 0, 0}, {0, 41, 0, 0}, {0, 10, -31, 0}, {0, 10, 31, 0},
             {0, 10, 0, -31}, {0, 10, 0, 31}};
         for (int[] w : wrong) {
@@ -146,11 +148,14 @@ public final class TrialPromisesTest {
         CHECK.same("23 edges", house.fold(0, -30), 28);
         CHECK.same("23 no wing", house.fold(3, 0), -1);
         CHECK.same("23 no wing below", house.fold(-1, 0), -1);
-        // A bend of 90 itself does not fold: 597 * v * v / 6400 is 90 at 31.
-        Check.read(house, FLAT + "wing w:2 k d 0,2 k d 0 deep 2000 stiff 6;");
-        house.solve(0, 30, 0, false);
-        CHECK.same("23 its bend ahead", house.strip(0, 1, 2), 597 * 900 / 6000);
-        CHECK.same("23 the first above 90", house.fold(0, 0), 31);
+        Check.read(house, FLAT + "wing w:2 k d 0,2 k d 0 deep 2000 stiff 9;wing x:2 n d 0,2 n d 0 deep 2000 stiff 9;"
+                + "wing y:2 k d 0,2 k d 0 deep 2000 stiff 10;wing z:2 k d 0 deep 2000 stiff 3;");
+        house.solve(0, 37, 0, false);
+        CHECK.same("23 the bend at 37", house.strip(0, 1, 2), 90);
+        CHECK.same("23 90 is not above 90", house.fold(0, 0), 38);
+        CHECK.same("23 nor -90 below", house.fold(1, 0), 38);
+        CHECK.same("23 at the last speed", house.fold(2, 0), 40);
+        CHECK.same("23 the first strip", house.fold(3, 0), 38);
         house.use(1);
         CHECK.same("23 unsettled", house.fold(0, 1), 1);
         CHECK.same("23 settled", house.fold(0, 0), -2);
@@ -181,12 +186,27 @@ public final class TrialPromisesTest {
         swings();
     }
 
-    /** Speeds beside one another between which a wing begins to shake, by the sums written out. */
+    /** The sums written out, at all speeds, for masses by a row of numbers. */
     private static void swings() {
         WingHouse house = Check.houseOf(FALLS);
         for (int v = 1; v <= 40; v++) {
             CHECK.same("24 at " + v, house.shakes(0, v, 0), swing(-180L * v * v, 300, 100, 50, 2000) > 1000 ? 1 : 0);
         }
+        int[] shaking = new int[2];
+        for (int i = 1; i <= 300; i++) {
+            int b = 1 + i * 37 % (i % 3 == 0 ? 200 : 2000);
+            int c = 1 + i * 11 % (i % 2 == 0 ? 20 : 2000);
+            int d = 1 + i * 53 % 2000;
+            boolean rises = i % 2 == 0;
+            house = Check.houseOf((rises ? "law n:-90-900,90 900;" : "law n:-90 900,90-900;")
+                    + "drag d:0 7,1 7;wing w:4 n d 0,5 n d 0 deep 2000 mass 9 " + b + " " + c + " " + d + ";");
+            for (int v = 1 + i % 5; v <= 40; v += 5) {
+                int due = swing((rises ? 180L : -180L) * v * v, 9, b, c, d) > 1000 ? 1 : 0;
+                CHECK.same("24 mass " + b + " " + c + " " + d + " at " + v, house.shakes(0, v, 0), due);
+                shaking[due]++;
+            }
+        }
+        CHECK.yes("24 both come often", shaking[0] > 200 && shaking[1] > 200);
     }
 
     private static long swing(long push, long a, long b, long c, long d) {
@@ -219,6 +239,16 @@ public final class TrialPromisesTest {
         CHECK.same("25 no slant", house.shake(0, -31), -1);
         Check.read(house, LEAPS.replace("2000;", "2000 mass 1 1 1 1;"));
         CHECK.same("25 unsettled at all", house.shake(0, 1), -2);
+        Check.read(house, FALLS.replace("300 100 50 2000", "1 2000 2000 1"));
+        CHECK.same("25 at the first speed", house.shake(0, 0), 1);
+        int b = 1;
+        while (swing(-180L * 1600, 1, b, 50, 2000) > 1000) {
+            b++;
+        }
+        Check.read(house, FALLS.replace("300 100 50 2000", "1 " + (b - 1) + " 50 2000")
+                .replace("300 2000 300 1", "1 " + b + " 50 2000"));
+        CHECK.same("25 at the last speed", house.shake(0, 0), 40);
+        CHECK.same("25 not even there", house.shake(2, 0), -2);
     }
 
     private static void promise26() {
@@ -242,6 +272,9 @@ public final class TrialPromisesTest {
         CHECK.same("26 minus twenty-seven", house.twist(1), -27);
         CHECK.same("26 both", house.best(1, 10, 0, 3, -999), 150 + 207);
         CHECK.same("26 four of five", house.best(2, 10, 0, 30, -999), 0);
+        CHECK.same("26 the last of 625", house.best(2, 10, 0, 27, 76), 8);
+        CHECK.same("26 and not one more", house.best(2, 10, 0, 27, 77), NO_BEST);
+        CHECK.same("26 four of five again", house.best(2, 10, 0, 30, -999), 0);
         int[][] wrong = {{3, 10, 0, 0}, {-1, 10, 0, 0}, {0, 0, 0, 0}, {0, 41, 0, 0}, {0, 10, 31, 0}, {0, 10, -31, 0},
             {0, 10, 0, 2}, {0, 10, 0, -1}, {0, 10, 0, Integer.MIN_VALUE}, {2, 10, 0, 31}, {2, 10, 0, 32}};
         for (int[] w : wrong) {
@@ -260,6 +293,11 @@ public final class TrialPromisesTest {
     }
 
     private static void bestIsBarred() {
+        // 10 * twist - 1 by each: from 7 back to 3 without rest it would be 31, and 70 with 4 and 3.
+        WingHouse two = Check.houseOf(VALLEY + "wing w:1 a v 5,1 a v 5 deep 2000;");
+        CHECK.same("26 each from rest", two.best(0, 10, 0, 3, 70), 8);
+        CHECK.same("26 each from rest", two.twist(0), 3);
+        CHECK.same("26 each from rest", two.twist(1), 5);
         WingHouse house = Check.houseOf(VALLEY + "wing w:1 a v 5 deep 2000;bar b if twist==4;");
         CHECK.same("26 barred by its own twist", house.best(0, 10, 0, 1, 30), 5);
         CHECK.same("26 past the barred one", house.twist(0), 5);
