@@ -676,6 +676,8 @@ public final class WingHouse {
     /** The bars of a text, each a row of steps in postfix order. */
     private static final class Bars {
         private static final int VARS = 8;
+        // Six ( within one another leave 14 signs waiting at most, so 16 values.
+        private static final int STACK_MOST = 32;
 
         private final int[] steps = new int[Tokens.MOST];
         private final int[] values = new int[Tokens.MOST];
@@ -683,7 +685,7 @@ public final class WingHouse {
         private final int[] ends = new int[BARS_MOST];
         private int barCount = 0;
         private final int[] vars = new int[VARS];
-        private final int[] stack = new int[Tokens.MOST];
+        private final int[] stack = new int[STACK_MOST];
         private int height = 0;
         private boolean broken = false;
 
@@ -858,6 +860,18 @@ public final class WingHouse {
             return word * 27 + (letter - 'a' + 1);
         }
 
+        private static boolean isBlank(int c) {
+            return c == 9 || c == 10 || c == 13 || c == 32;
+        }
+
+        private static boolean isLetter(int c) {
+            return c >= 'a' && c <= 'z';
+        }
+
+        private static boolean isDigit(int c) {
+            return c >= '0' && c <= '9';
+        }
+
         private static boolean isComparison(int kind) {
             return kind >= EQUAL && kind <= LESS_EQUAL;
         }
@@ -897,7 +911,7 @@ public final class WingHouse {
         }
 
         private void scanOne(int token) {
-            for (int c = byteAt(at); at < length && (c == 9 || c == 10 || c == 13 || c == 32); c = byteAt(at)) {
+            while (at < length && isBlank(byteAt(at))) {
                 at++;
             }
             int c = byteAt(at);
@@ -908,9 +922,9 @@ public final class WingHouse {
             values[token] = 0;
             if (c == NONE) {
                 kinds[token] = END;
-            } else if (c >= 'a' && c <= 'z') {
+            } else if (isLetter(c)) {
                 kinds[token] = wordFrom(token);
-            } else if (c >= '0' && c <= '9') {
+            } else if (isDigit(c)) {
                 kinds[token] = numberFrom(token);
             } else {
                 kinds[token] = signFrom(c);
@@ -920,8 +934,8 @@ public final class WingHouse {
         private int wordFrom(int token) {
             long word = 0;
             int letters = 0;
-            for (int c = byteAt(at); at < length && c >= 'a' && c <= 'z'; c = byteAt(at)) {
-                word = letters < NAME_LETTERS ? withLetter(word, c) : word;
+            while (at < length && isLetter(byteAt(at))) {
+                word = letters < NAME_LETTERS ? withLetter(word, byteAt(at)) : word;
                 letters++;
                 at++;
             }
@@ -940,8 +954,8 @@ public final class WingHouse {
         private int numberFrom(int token) {
             int number = 0;
             int digits = 0;
-            for (int c = byteAt(at); at < length && c >= '0' && c <= '9'; c = byteAt(at)) {
-                number = digits < INT_DIGITS ? number * 10 + (c - '0') : number;
+            while (at < length && isDigit(byteAt(at))) {
+                number = digits < INT_DIGITS ? number * 10 + (byteAt(at) - '0') : number;
                 digits++;
                 at++;
             }
