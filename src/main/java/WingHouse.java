@@ -534,7 +534,7 @@ public final class WingHouse {
         private boolean massTold = false;
         private final Flow last = new Flow();
 
-        private void clear() {
+        private void untell() {
             strips = 0;
             deep = DEEP_UNTOLD;
             stiff = 0;
@@ -584,10 +584,10 @@ public final class WingHouse {
                 laws[i].points = 0;
             }
             for (int i = 0; i < WINGS_MOST; i++) {
-                wings[i].clear();
+                wings[i].untell();
             }
             Arrays.fill(hingeAngles, 0);
-            bars.clear();
+            bars.empty();
             lawCount = 0;
             hingeCount = 0;
             wingCount = 0;
@@ -689,7 +689,7 @@ public final class WingHouse {
         private int height = 0;
         private boolean broken = false;
 
-        private void clear() {
+        private void empty() {
             stepCount = 0;
             barCount = 0;
         }

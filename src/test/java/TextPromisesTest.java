@@ -320,7 +320,7 @@ public final class TextPromisesTest {
         Check.read(house, "law x:0 900,1 900;hinge h 9;" + BOTH + "wing v:9 x d 9 on h,9 x d 9 on h "
                 + "deep 50 stiff 1 sweep 9 mass 1 1 1 1;bar b if 1==1;wing w:0 x d 0;");
         CHECK.same("fault", house.place(), 148);
-        CHECK.same("without it", Check.read(house, "hinge x 5;law k:0 900,1 900;" + DRAG_D + "wing w:1 k d 0;"), 0);
+        CHECK.same("without it", Check.read(house, "hinge x 5;law k:0 901,1 901;" + DRAG_D + "wing w:1 k d 0;"), 0);
         int[] due = {2, 1, 1, 0};
         for (int what = 3; what < 7; what++) {
             CHECK.same("counts without it " + what, house.count(what), due[what - 3]);
@@ -328,10 +328,10 @@ public final class TextPromisesTest {
         CHECK.same("strips without it", house.count(10), 1);
         CHECK.same("never", house.strip(0, 0, 0), -1000000);
         house.solve(0, 40, 5, true);
-        CHECK.same("G", house.strip(0, 0, 0), 899);
-        CHECK.same("deep 200", house.strip(0, 0, 1), 8);
+        CHECK.same("G", house.strip(0, 0, 0), 900);
+        CHECK.same("deep 200", house.strip(0, 0, 1), 1800 / 200);
         CHECK.same("stiff 0", house.strip(0, 0, 2), 0);
-        CHECK.same("sweep 0", house.strip(0, 0, 3), 5 - 8);
+        CHECK.same("sweep 0", house.strip(0, 0, 3), 5 - 9);
         CHECK.same("mass none", house.shakes(0, 10, 5), -1);
         CHECK.same("no bars", house.barred(0), -2);
     }

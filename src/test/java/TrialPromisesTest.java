@@ -156,6 +156,11 @@ public final class TrialPromisesTest {
         CHECK.same("23 nor -90 below", house.fold(1, 0), 38);
         CHECK.same("23 at the last speed", house.fold(2, 0), 40);
         CHECK.same("23 the first strip", house.fold(3, 0), 38);
+        Check.read(house, FLAT + "wing w:2 k d 0,2 k d 0 deep 2000 stiff 8;wing x:2 n d 0,2 n d 0 deep 2000 stiff 8;");
+        house.solve(0, 35, 0, false);
+        CHECK.same("23 the bend at 35", house.strip(0, 1, 2), 91);
+        CHECK.same("23 91 is above 90", house.fold(0, 0), 35);
+        CHECK.same("23 and -91 below", house.fold(1, 0), 35);
         house.use(1);
         CHECK.same("23 unsettled", house.fold(0, 1), 1);
         CHECK.same("23 settled", house.fold(0, 0), -2);

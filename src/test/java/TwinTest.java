@@ -42,6 +42,9 @@ public final class TwinTest {
             String name = "seed " + seed + " step " + step + ": ";
             if (house.count(0) < 4 && (step < 3 || texts.once(25))) {
                 calls += feed(name, texts.text(), house, twin);
+            } else if (texts.once(8)) {
+                askWild(name, texts, house, twin);
+                calls++;
             } else {
                 ask(name, chance, texts, house, twin);
                 calls++;
@@ -61,6 +64,57 @@ public final class TwinTest {
         check.same(name + "read " + text, house.read(), fault);
         same(name + "place " + text, house.place(), twin.place());
         return chunks.length + 3;
+    }
+
+    private static final int[] FAR = {Integer.MIN_VALUE, Integer.MIN_VALUE + 1, -1000001, -1001, -31, -30, -1, 0, 1, 2, 3,
+        4, 7, 9, 10, 11, 15, 30, 31, 40, 41, 60, 500, 501, 1000, 1001, 2000, 1000000, Integer.MAX_VALUE - 1,
+        Integer.MAX_VALUE};
+
+    private int far(Texts texts) {
+        return FAR[texts.between(0, FAR.length - 1)];
+    }
+
+    /** Any number in any place. */
+    private void askWild(String name, Texts texts, WingHouse house, Twin twin) {
+        int a = far(texts), b = far(texts), c = far(texts), d = far(texts), e = far(texts);
+        boolean on = texts.once(2);
+        if (texts.once(2)) {
+            a = texts.between(0, 1);
+        }
+        if (texts.once(2)) {
+            b = texts.between(1, 40);
+        }
+        switch (texts.between(0, 28)) {
+            case 0: same(name + "back", house.back(a), twin.back(a)); break;
+            case 1: same(name + "place", house.place(), twin.place()); break;
+            case 2: same(name + "use", house.use(a) ? 1 : 0, twin.use(a) ? 1 : 0); break;
+            case 3: same(name + "law", house.law(a, c), twin.law(a, c)); break;
+            case 4: same(name + "hinge", house.hinge(a, c) ? 1 : 0, twin.hinge(a, c) ? 1 : 0); break;
+            case 5: same(name + "gust", house.gust(a, c) ? 1 : 0, twin.gust(a, c) ? 1 : 0); break;
+            case 6: same(name + "solve", house.solve(a, b, c, on), twin.solve(a, b, c, on)); break;
+            case 7: same(name + "ground", house.ground(a, b, c, d), twin.ground(a, b, c, d)); break;
+            case 8: same(name + "follow", house.follow(a, b, c, d, e), twin.follow(a, b, c, d, e)); break;
+            case 9: same(name + "strip", house.strip(a, d, c), twin.strip(a, d, c)); break;
+            case 10: same(name + "edge", house.edge(a, c), twin.edge(a, c)); break;
+            case 11: same(name + "force", house.force(a, c), twin.force(a, c)); break;
+            case 12: same(name + "barred", house.barred(c), twin.barred(c)); break;
+            case 13: same(name + "where", house.where(c), twin.where(c)); break;
+            case 14: same(name + "curve", house.curve(a, b, c, d), twin.curve(a, b, c, d)); break;
+            case 15: same(name + "lift", house.lift(c), twin.lift(c)); break;
+            case 16: same(name + "trims", house.trims(a, b, c), twin.trims(a, b, c)); break;
+            case 17: same(name + "trim", house.trim(a, b, c, d), twin.trim(a, b, c, d)); break;
+            case 18: same(name + "stays", house.stays(a, b, c, d), twin.stays(a, b, c, d)); break;
+            case 19: same(name + "fold", house.fold(a, c), twin.fold(a, c)); break;
+            case 20: same(name + "shakes", house.shakes(a, b, c), twin.shakes(a, b, c)); break;
+            case 21: same(name + "shake", house.shake(a, c), twin.shake(a, c)); break;
+            case 22: same(name + "best", house.best(a, b, c, d, e), twin.best(a, b, c, d, e)); break;
+            case 23: same(name + "twist", house.twist(c), twin.twist(c)); break;
+            case 24: same(name + "run", house.run(a, b, c, d, e), twin.run(a, b, c, d, e)); break;
+            case 25: same(name + "annul", house.annul(c), twin.annul(c)); break;
+            case 26: same(name + "right", house.right(c), twin.right(c)); break;
+            case 27: same(name + "out", house.out(a, c), twin.out(a, c)); same(name + "fits", house.fits(a, c), twin.fits(a, c)); break;
+            default: same(name + "next", house.next(a, c), twin.next(a, c)); same(name + "count", house.count(d), twin.count(d)); break;
+        }
     }
 
     private void ask(String name, Random chance, Texts texts, WingHouse house, Twin twin) {
