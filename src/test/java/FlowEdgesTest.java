@@ -226,7 +226,8 @@ public final class FlowEdgesTest {
         }
     }
 
-    /** Sums so near to a whole DOWN that one in M / 1, M / 3, .. M / 19 more or less would be seen: strip, deep, DOWN. */
+    /** Sums so near to a whole DOWN that one more or less in M / 1, M / 3, .. M / 19 would be seen; each row begins
+     *  with the strip, deep and the DOWN that is due. */
     private static void nearWholeDowns() {
         int[][] rows = {
             {4, 1446, 1, 875, 875, 656, 616, 875, -339, -910, 616, 875, 616},

@@ -192,7 +192,8 @@ public final class RunEdgesTest {
     // ---- "if it has that WING, it is SOLVED from rest (as of a CURVE, HINGES 0)" ----
 
     private static void fitsOnlyIf() {
-        String four = "law a:-90-900,90 900;drag d:0 7,1 7;wing w:1 a d 0;wing x:1 a d 0;wing y:1 a d 0;wing z:1 a d 0;";
+        String four = "law a:-90-900,90 900;drag d:0 7,1 7;"
+                + "wing w:1 a d 0;wing x:1 a d 0;wing y:1 a d 0;wing z:1 a d 0;";
         WingHouse house = Check.houseOf(TEN, LEAPS, "", four);
         for (int wing = 0; wing < 4; wing++) {
             house.run(wing, 10, 10, 99, 0);
@@ -281,10 +282,10 @@ public final class RunEdgesTest {
         for (int tries = 0; tries < 3000 && seen.size() < 37; tries++) {
             WingHouse house = new WingHouse();
             for (int t = 0; t < 2; t++) {
-                String text = "law k:-90 " + (chance.nextInt(1999) - 999) + "," + (chance.nextInt(100) - 50) + " "
-                        + (chance.nextInt(1999) - 999) + ",90 " + (chance.nextInt(1999) - 999) + ";drag d:0 7,1 7;wing w:"
-                        + (1 + chance.nextInt(2)) + " k d 0 deep 2000 stiff " + (1 + chance.nextInt(9)) + " sweep "
-                        + (chance.nextInt(19) - 9) + ";";
+                String law = "law k:-90 " + (chance.nextInt(1999) - 999) + "," + (chance.nextInt(100) - 50) + " "
+                        + (chance.nextInt(1999) - 999) + ",90 " + (chance.nextInt(1999) - 999) + ";";
+                String text = law + "drag d:0 7,1 7;wing w:" + (1 + chance.nextInt(2)) + " k d 0 deep 2000 stiff "
+                        + (1 + chance.nextInt(9)) + " sweep " + (chance.nextInt(19) - 9) + ";";
                 CHECK.same("read", Check.read(house, text.replace(" -", "-")), 0);
             }
             int due = -2;

@@ -34,6 +34,7 @@ public final class TextEdgesTest {
         toldTwice();
         textsAtMost();
         aFaultChangesNothing();
+        lastCall();
         CHECK.end("TextEdgesTest");
     }
 
@@ -50,21 +51,17 @@ public final class TextEdgesTest {
         fault(text, 0, -1);
     }
 
-    private static String times(String part, int n) {
-        return part.repeat(n);
-    }
-
     // ---- "A TEXT has 2,000 bytes at most." ----
 
     private static void bytesAtMost() {
         for (int bytes = 1980; bytes <= 2000; bytes++) {
-            taken(times(" ", bytes - LAW_A.length()) + LAW_A);
-            taken(LAW_A + times("\n", bytes - LAW_A.length()));
-            fault("law" + times(" ", bytes - 3), 1, bytes);
-            fault(times(" ", bytes - 1) + "!", 1, bytes - 1);
+            taken(" ".repeat(bytes - LAW_A.length()) + LAW_A);
+            taken(LAW_A + "\n".repeat(bytes - LAW_A.length()));
+            fault("law" + " ".repeat(bytes - 3), 1, bytes);
+            fault(" ".repeat(bytes - 1) + "!", 1, bytes - 1);
         }
         WingHouse house = new WingHouse();
-        Check.feed(house, times(" ", 2000 - LAW_A.length()) + LAW_A);
+        Check.feed(house, " ".repeat(2000 - LAW_A.length()) + LAW_A);
         CHECK.same("one byte less", house.back(1), 1999);
         CHECK.same("without its last byte", house.read(), 1);
         CHECK.same("the text's end", house.place(), 1999);
@@ -79,12 +76,14 @@ public final class TextEdgesTest {
             boolean letter = b >= 'a' && b <= 'z';
             boolean digit = b >= '0' && b <= '9';
             fault("law" + s + "a:0 0,1 1;", blank ? 0 : 1, blank ? -1 : letter ? 0 : 3);
-            fault("law a:0 0,1 1" + s + ";", blank || digit ? 0 : 1, blank || digit ? -1 : b == ',' || b == ';' ? 14 : 13);
+            boolean fits = b == ',' || b == ';';
+            fault("law a:0 0,1 1" + s + ";", blank || digit ? 0 : 1, blank || digit ? -1 : fits ? 14 : 13);
             fault(s + LAW_A, blank ? 0 : 1, blank ? -1 : 0);
             fault(LAW_A + s, blank ? 0 : 1, blank ? -1 : 14);
             fault(s, blank ? 0 : 1, blank ? -1 : 0);
         }
-        taken("law a:0 0,1 1;drag d:0-1,1-1;hinge h 1;wing w:1a d 0on h deep50stiff0sweep-0mass1 1 1 1;bar b if(1)<=2or 1<2;");
+        taken("law a:0 0,1 1;drag d:0-1,1-1;hinge h 1;wing w:1a d 0on h deep50stiff0sweep-0mass1 1 1 1;"
+                + "bar b if(1)<=2or 1<2;");
         taken(WHOLE);
         taken(WHOLE.replace(" ", "\t\n\r "));
     }
@@ -93,11 +92,11 @@ public final class TextEdgesTest {
 
     private static void names() {
         for (int letters = 1; letters <= 8; letters++) {
-            taken("law " + times("a", letters) + ":0 0,1 1;");
-            taken("law " + times("z", letters) + ":0 0,1 1;");
+            taken("law " + "a".repeat(letters) + ":0 0,1 1;");
+            taken("law " + "z".repeat(letters) + ":0 0,1 1;");
         }
         for (int letters = 9; letters <= 20; letters++) {
-            fault("law " + times("a", letters) + ":0 0,1 1;", 1, 4);
+            fault("law " + "a".repeat(letters) + ":0 0,1 1;", 1, 4);
         }
         fault("law deepdeepd:0 0,1 1;", 1, 4);
         fault("law aaaaaaaa a:0 0,1 1;", 1, 13);
@@ -108,7 +107,7 @@ public final class TextEdgesTest {
         // The eighth letter counts, and each ahead of it.
         String text = "";
         for (int i = 0; i < 8; i++) {
-            text += "law " + times("m", i) + "n" + times("m", 7 - i) + ":0 0,1 1;";
+            text += "law " + "m".repeat(i) + "n" + "m".repeat(7 - i) + ":0 0,1 1;";
         }
         taken(text);
         taken("law a:0 0,1 1;law aa:0 0,1 1;law aaaaaaaa:0 0,1 1;law aaaaaaa:0 0,1 1;");
@@ -247,7 +246,7 @@ public final class TextEdgesTest {
 
     /** Room is told at what stands behind the comma, at the text's end too. */
     private static void behind(String text, int room) {
-        for (String next : new String[] {"9 9;", "-9 9;", "9", "-", ";", ",", "a", "law", "!", "12345", "abcdefghi", "("}) {
+        for (String next : "9 9;_-9 9;_9_-_;_,_a_law_!_12345_abcdefghi_(".split("_")) {
             fault(text + "," + next, room, text.length() + 1);
             fault(text + " ,\n" + next, room, text.length() + 3);
         }
@@ -351,8 +350,8 @@ public final class TextEdgesTest {
 
     private static void tokens() {
         // 3 tokens, a sum of 2 * n + 1, then 3 more: with n = 244 they are 495, with a not they are 496.
-        String five = "bar b if 1" + times("+1", 244) + "==1;";
-        String four = "bar b if not 1" + times("+1", 244) + "==1;";
+        String five = "bar b if 1" + "+1".repeat(244) + "==1;";
+        String four = "bar b if not 1" + "+1".repeat(244) + "==1;";
         taken(five);
         taken(four);
         // A hinge has 4.
@@ -386,7 +385,7 @@ public final class TextEdgesTest {
 
     /** The 501st within a condition, behind 493 others. */
     private static void inCondition() {
-        String ahead = "bar b if " + times("not ", 490);
+        String ahead = "bar b if " + "not ".repeat(490);
         int at = ahead.length();
         fault(ahead + "1+1+1+1", 1, at + 7);
         for (String next : new String[] {"+", "-", "*", "/", "==", "!=", "<", "<="}) {
@@ -412,13 +411,13 @@ public final class TextEdgesTest {
 
     private static void parentheses() {
         for (int deep = 1; deep <= 6; deep++) {
-            taken("bar b if " + times("(", deep) + "1" + times(")", deep) + "==1;");
-            taken("bar b if 1==" + times("(", deep) + "1" + times(")", deep) + ";");
-            taken("bar b if not 1+2*" + times("(", deep) + "1" + times(")", deep) + "<1;");
+            taken("bar b if " + "(".repeat(deep) + "1" + ")".repeat(deep) + "==1;");
+            taken("bar b if 1==" + "(".repeat(deep) + "1" + ")".repeat(deep) + ";");
+            taken("bar b if not 1+2*" + "(".repeat(deep) + "1" + ")".repeat(deep) + "<1;");
         }
         for (int deep = 7; deep <= 12; deep++) {
-            fault("bar b if " + times("(", deep) + "1" + times(")", deep) + "==1;", 2, 15);
-            fault("bar b if 1==" + times("(", deep) + "1" + times(")", deep) + ";", 2, 18);
+            fault("bar b if " + "(".repeat(deep) + "1" + ")".repeat(deep) + "==1;", 2, 15);
+            fault("bar b if 1==" + "(".repeat(deep) + "1" + ")".repeat(deep) + ";", 2, 18);
         }
         String six = "((((((1))))))";
         taken("bar b if " + six + "+" + six + "*" + six + "==" + six + " and " + six + "<" + six + ";");
@@ -673,7 +672,8 @@ public final class TextEdgesTest {
     private static WingHouse standing(int texts) {
         WingHouse house = new WingHouse();
         for (int i = 0; i < texts; i++) {
-            Check.read(house, "law a:-20-200,20 200;drag d:0 " + i + ",1 9;hinge h 9;wing w:1 a d 0 on h,2 a d 1 mass 1 1 1 1;");
+            Check.read(house, "law a:-20-200,20 200;drag d:0 " + i + ",1 9;hinge h 9;"
+                    + "wing w:1 a d 0 on h,2 a d 1 mass 1 1 1 1;");
             house.hinge(0, 3 + i);
             house.solve(0, 12, 3, false);
             house.curve(0, 10, 0, 5);
@@ -685,8 +685,8 @@ public final class TextEdgesTest {
     }
 
     private static void aFaultChangesNothing() {
-        String rich = "law x:0 900,1 900;hinge h 9;hinge g 8;" + BOTH + "wing v:9 x d 9 on h,9 x d 9 on g deep 50 stiff 1 "
-                + "sweep 9 mass 1 1 1 1;bar b if 1==1;bar c if 1/0==1;";
+        String rich = "law x:0 900,1 900;hinge h 9;hinge g 8;" + BOTH + "wing v:9 x d 9 on h,9 x d 9 on g "
+                + "deep 50 stiff 1 sweep 9 mass 1 1 1 1;bar b if 1==1;bar c if 1/0==1;";
         List<String> faults = new ArrayList<>(List.of("!", "law", "hinge h 1;", "wing w:1 z d 0;", "hinge k 0;"));
         faults.add(row("law", 6, "l") + "law");
         int[] due = {1, 1, 3, 4, 5, 2};
@@ -731,10 +731,30 @@ public final class TextEdgesTest {
             for (int v : new int[] {1, 40}) {
                 CHECK.same("rounds", house.solve(0, v, 0, true), fresh.solve(0, v, 0, true));
                 for (int what = 0; what < 4; what++) {
-                    CHECK.same("behind a fault " + what + " " + makes, house.strip(0, 0, what), fresh.strip(0, 0, what));
+                    CHECK.same("behind a fault " + makes, house.strip(0, 0, what), fresh.strip(0, 0, what));
                 }
                 CHECK.same("mass behind a fault " + makes, house.shakes(0, v, 0), fresh.shakes(0, v, 0));
             }
         }
+    }
+
+    // ---- "An object is used for at most 512 calls" ----
+
+    private static void lastCall() {
+        WingHouse house = new WingHouse();
+        int[] c = Check.chunks("law a:0 0,1 7;")[0];
+        for (int call = 1; call <= 255; call++) {
+            CHECK.same("feed", house.feed(c[0], c[1], c[2], c[3], c[4]), 20);
+            CHECK.same("back", house.back(20), 0);
+        }
+        CHECK.same("the 511th call", house.read(), 0);
+        CHECK.same("the 512th call", house.law(-1, 0), -1000000);
+        WingHouse other = new WingHouse();
+        for (int call = 1; call <= 509; call++) {
+            CHECK.same("gust", other.gust(0, 30) ? 1 : 0, 1);
+        }
+        CHECK.same("feed", other.feed(c[0], c[1], c[2], c[3], c[4]), 20);
+        CHECK.same("read", other.read(), 0);
+        CHECK.same("the 512th call", other.law(0, 1), 7);
     }
 }

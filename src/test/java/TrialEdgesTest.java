@@ -43,6 +43,12 @@ public final class TrialEdgesTest {
         }
     }
 
+    private static void none(WingHouse house, int from, int to) {
+        for (int s = from; s <= to; s++) {
+            CHECK.same("no lift at " + s, house.lift(s), NO_FORCE);
+        }
+    }
+
     // ---- "A CURVE of a WING from SLANT a to b (one by one, up or down): SOLVED from rest at a, then on" ----
 
     private static void oneByOne() {
@@ -120,13 +126,15 @@ public final class TrialEdgesTest {
             CHECK.yes("settled from rest at " + s, s >= 1 && s <= 8 ? rounds == -2 : rounds > 0);
         }
         CHECK.same("over a gap", house.curve(0, 10, -1, 10), -100);
-        lifts(house, -1, -179, -1, NO_FORCE, NO_FORCE, NO_FORCE, NO_FORCE, NO_FORCE, NO_FORCE, NO_FORCE, NO_FORCE, 8990, 8990);
+        lifts(house, -1, -179, -1);
+        none(house, 1, 8);
+        lifts(house, 9, 8990, 8990, NO_FORCE);
         CHECK.same("to a gap", house.curve(0, 10, 0, 4), -100);
         lifts(house, 0, 0, NO_FORCE, NO_FORCE, NO_FORCE, NO_FORCE, NO_FORCE);
         CHECK.same("from a gap it is from rest", house.curve(0, 10, 8, 9), -100);
         lifts(house, 8, NO_FORCE, 8990);
         CHECK.same("in a gap", house.curve(0, 10, 1, 8), -100);
-        lifts(house, -1, NO_FORCE, NO_FORCE, NO_FORCE, NO_FORCE, NO_FORCE, NO_FORCE, NO_FORCE, NO_FORCE, NO_FORCE, NO_FORCE);
+        none(house, -30, 30);
         CHECK.same("one in a gap", house.curve(0, 10, 5, 5), -100);
         CHECK.same("down from a gap", house.curve(0, 10, 3, -1), -100);
         lifts(house, -1, -179, 0, NO_FORCE, NO_FORCE, NO_FORCE);
@@ -355,8 +363,8 @@ public final class TrialEdgesTest {
         for (String law : laws) {
             // p and u, with a, never come to q.
             for (int a : new int[] {1, 2000}) {
-                WingHouse house = Check.houseOf("law n:" + law + ";drag d:0 7,1 7;wing w:9 n d 0 deep 2000 mass " + a + " "
-                        + b + " " + c + " " + d + ";");
+                String mass = " mass " + a + " " + b + " " + c + " " + d + ";";
+                WingHouse house = Check.houseOf("law n:" + law + ";drag d:0 7,1 7;wing w:9 n d 0 deep 2000" + mass);
                 CHECK.same("shakes " + slope + " at " + v + ": " + b + " " + c + " " + d, house.shakes(0, v, 0), due);
             }
         }
@@ -402,8 +410,8 @@ public final class TrialEdgesTest {
 
     private static void shakeAtSpeeds() {
         // Unsettled up to 19, shaking at 20 alone.
-        String gap = "law j:-5-100,0 0,1 999;drag d:0 7,1 7;"
-                + "wing w:5 j d 0 deep 341 stiff 37 sweep-4 mass 1 87 13 1678;wing x:5 j d 0 deep 341 stiff 37 sweep-4;";
+        String strip = ":5 j d 0 deep 341 stiff 37 sweep-4";
+        String gap = "law j:-5-100,0 0,1 999;drag d:0 7,1 7;wing w" + strip + " mass 1 87 13 1678;wing x" + strip + ";";
         WingHouse house = Check.houseOf(gap);
         for (int v = 1; v <= 40; v++) {
             CHECK.same("shakes at " + v, house.shakes(0, v, 9), v < 20 ? -2 : v == 20 ? 1 : 0);
@@ -477,7 +485,8 @@ public final class TrialEdgesTest {
     // ---- "of told STRIPS (bits, 4 at most)" ----
 
     private static void toldStrips() {
-        String ten = LAWS + "wing w:1 a p 5" + ",1 a p 5".repeat(9) + " deep 2000;wing x:1 a p 5,1 a p 5,1 a p 5 deep 2000;";
+        String ten = LAWS + "wing w:1 a p 5" + ",1 a p 5".repeat(9) + " deep 2000;wing x:1 a p 5"
+                + ",1 a p 5".repeat(2) + " deep 2000;";
         WingHouse house = Check.houseOf(ten);
         for (int i = 0; i < 10; i++) {
             CHECK.same("strip " + i, house.best(0, 10, 0, 1 << i, LEAST), 1850 - 2);
@@ -509,7 +518,8 @@ public final class TrialEdgesTest {
 
     private static void firstOfTheLeast() {
         // One drag for all: LIFT alone tells them apart, and it goes by the sum of the twists.
-        WingHouse house = Check.houseOf("law a:-90-900,90 900;drag k:0 7,1 7;wing w:1 a k 5,1 a k 5,1 a k 5,1 a k 5 deep 2000;");
+        WingHouse house = Check.houseOf("law a:-90-900,90 900;drag k:0 7,1 7;wing w:1 a k 5" + ",1 a k 5".repeat(3)
+                + " deep 2000;");
         int[][] due = {{LEAST, 3, 3, 3, 3}, {116, 3, 3, 3, 3}, {117, 3, 3, 3, 4}, {156, 3, 3, 3, 7}, {157, 3, 3, 4, 7},
             {196, 3, 3, 7, 7}, {197, 3, 4, 7, 7}, {236, 3, 7, 7, 7}, {237, 4, 7, 7, 7}, {276, 7, 7, 7, 7}};
         for (int[] d : due) {
