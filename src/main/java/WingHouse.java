@@ -725,7 +725,8 @@ public final class WingHouse {
                     all = true;
                 } else if (Tokens.isComparison(step)) {
                     // The value of a comparison is 1 behind an odd number of nots.
-                    all &= compares(step) != (values[i] == 1);
+                    boolean held = compares(step) != (values[i] == 1);
+                    all = all && held;
                     broken = false;
                 } else if (Tokens.isVariable(step)) {
                     push(vars[values[i] & 7]);

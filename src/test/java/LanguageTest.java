@@ -29,6 +29,8 @@ public final class LanguageTest {
         LanguageTest test = new LanguageTest(Files.readAllLines(Path.of("src/main/java/WingHouse.java")));
         test.forbidden();
         test.classes();
+        test.fields();
+        test.library();
         test.methods();
         test.depth();
         CHECK.end("LanguageTest");
@@ -36,7 +38,7 @@ public final class LanguageTest {
 
     private void forbidden() {
         Pattern no = Pattern.compile("\\b(throw|try|catch|synchronized|assert|instanceof|interface|do)\\b|->|::|@"
-                + "|while \\(true|for \\(;;|\\w+Exact\\b|System\\.(?!arraycopy)|[^\\x00-\\x7f]|\" \\+|\\+ \"");
+                + "|while \\(true|for \\(;;|[&|^]=|\\w+Exact\\b|System\\.(?!arraycopy)|[^\\x00-\\x7f]|\" \\+|\\+ \"");
         for (int i = 0; i < lines.size(); i++) {
             String code = lines.get(i).replaceAll("//.*|^ *(/\\*\\*| \\*).*", "");
             CHECK.no("line " + (i + 1) + ": " + code, no.matcher(code).find());
@@ -61,6 +63,33 @@ public final class LanguageTest {
         CHECK.yes("classes: " + classes, classes <= 12);
     }
 
+    private void fields() {
+        Pattern field = Pattern.compile("^ {4,8}private (static )?(final )?([\\w\\[\\]]+) \\w+( =.*|;)$");
+        int inClass = 0;
+        for (String line : lines) {
+            Matcher found = field.matcher(line);
+            if (line.contains(" class ")) {
+                inClass = 0;
+            } else if (found.matches() && found.group(1) == null) {
+                inClass++;
+                CHECK.yes(line + " is one field too many", inClass <= 20);
+            } else if (found.matches()) {
+                CHECK.yes(line, found.group(2) != null && found.group(3).matches("int|long|String|int\\[\\]"));
+            }
+        }
+    }
+
+    private void library() {
+        Set<String> may = Set.of("Math.max", "Math.min", "Math.abs", "Arrays.fill", "Integer.bitCount", "System.arraycopy");
+        Pattern used = Pattern.compile("\\b(?:Math|Arrays|Integer|Long|String|System)\\.\\w+");
+        for (String line : lines) {
+            Matcher use = used.matcher(line.startsWith("import") ? "" : line);
+            while (use.find()) {
+                CHECK.yes(line, may.contains(use.group()));
+            }
+        }
+    }
+
     private void methods() {
         for (int i = 0; i < lines.size(); i++) {
             Matcher method = METHOD.matcher(lines.get(i));
@@ -79,6 +108,8 @@ public final class LanguageTest {
                 while (call.find()) {
                     called.add(call.group(1));
                 }
+                // What is made with the object is counted once, what a call makes as often as it comes.
+                CHECK.no("a call makes something: " + line, method.group(4) != null && line.contains("new "));
                 end++;
             } while (depth > 0);
             CHECK.yes(name + " has " + (end - i) + " lines", end - i <= 60);
